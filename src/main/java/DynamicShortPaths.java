@@ -252,7 +252,9 @@ public final class DynamicShortPaths {
         boolean changed = false;
         for (int u = 0; u < n; u++) {
             for (int v = 0; v < n; v++) {
-                if (relax(u, v)) {
+                int slot = slotOf(u, v);
+                int w = weight[slot];
+                if (w != NO_EDGE && trialDist[u] != NO_DIST && relax(u, v, w)) {
                     changed = true;
                 }
             }
@@ -260,12 +262,8 @@ public final class DynamicShortPaths {
         return changed;
     }
 
-    private boolean relax(int u, int v) {
-        int slot = slotOf(u, v);
-        if (weight[slot] == NO_EDGE || trialDist[u] == NO_DIST) {
-            return false;
-        }
-        int newDist = trialDist[u] + weight[slot];
+    private boolean relax(int u, int v, int w) {
+        int newDist = trialDist[u] + w;
         int newHops = trialHops[u] + 1;
         // NO_DIST is above every real distance, so a vertex not yet met always takes the new one.
         if (newDist > trialDist[v] || (newDist == trialDist[v] && newHops >= trialHops[v])) {
