@@ -20,7 +20,7 @@ public final class DynamicShortPaths {
 
     private static final int MIN_VERTICES = 2;
     private static final int MIN_EDGES = 1;
-    private static final int PAIRS = 1024;
+    private static final int PAIRS = MAX_VERTICES * MAX_VERTICES;
     private static final int NONE = -1;
 
     private final int n;
