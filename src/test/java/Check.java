@@ -1,20 +1,32 @@
 /** Counts and prints the answers of one test that are not the ones due. */
 final class Check {
+    // 256, 65536 and 1 << 27 are 0 again if an index is narrowed, or multiplied by 32, without a look.
     private static final int[] OUTSIDE = {
-        Integer.MIN_VALUE, Integer.MIN_VALUE + 1, -32, -1, 32, 33, 1024, Integer.MAX_VALUE - 1, Integer.MAX_VALUE
+        Integer.MIN_VALUE, Integer.MIN_VALUE + 1, -(1 << 27), -32, -1,
+        32, 33, 256, 1024, 65536, 1 << 27, Integer.MAX_VALUE - 1, Integer.MAX_VALUE
     };
     private static int wrong = 0;
     private static int done = 0;
+    private static String sentence = "";
 
     private Check() {
+    }
+
+    /** The sentence of the document that the next answers belong to: printed with each that is wrong. */
+    static void sentence(String words) {
+        sentence = words;
     }
 
     static void same(String call, long got, long due) {
         done++;
         if (got != due) {
-            wrong++;
-            System.out.println(call + " answered " + got + ", due is " + due);
+            tell(call + " answered " + got + ", due is " + due);
         }
+    }
+
+    private static void tell(String what) {
+        wrong++;
+        System.out.println(what + (sentence.isEmpty() ? "" : "  [" + sentence + "]"));
     }
 
     static void same(String call, boolean got, boolean due) {
@@ -24,9 +36,15 @@ final class Check {
     static void same(String what, String got, String due) {
         done++;
         if (!got.equals(due)) {
-            wrong++;
-            System.out.println(what + ": got\n" + got + "due is\n" + due);
+            tell(what + ":" + linesOnlyIn(got, due, "answered") + linesOnlyIn(due, got, "due is"));
         }
+    }
+
+    private static String linesOnlyIn(String text, String other, String label) {
+        java.util.List<String> known = other.lines().toList();
+        StringBuilder only = new StringBuilder();
+        text.lines().filter(line -> !known.contains(line)).forEach(line -> only.append(" <").append(line).append(">"));
+        return " " + label + (only.length() == 0 ? " nothing more" : only);
     }
 
     /** Vertex arguments that are not valid for x: the nearest ones on both sides, and far ones. */
@@ -36,18 +54,47 @@ final class Check {
         return all;
     }
 
+    /** Weights that are not allowed: the nearest ones on both sides, and far ones. */
+    static int[] badWeights() {
+        return new int[] {
+            Integer.MIN_VALUE, Integer.MIN_VALUE + 1, -65536, -1001,
+            1001, 65536, Integer.MAX_VALUE - 1, Integer.MAX_VALUE
+        };
+    }
+
     /** Every answer of every getter, for valid vertices and for some that are not. */
     static String answers(DynamicShortPaths x) {
-        StringBuilder text = new StringBuilder();
-        int n = x.vertexCount();
-        text.append("n ").append(n).append(" source ").append(x.getSource());
-        text.append(" edges ").append(x.edgeCount()).append(" reachable ").append(x.reachableCount()).append('\n');
-        for (int v = -1; v <= n; v++) {
+        String counts = "n " + x.vertexCount() + " source " + x.getSource() + " edges " + x.edgeCount() + "\n";
+        return counts + tree(x) + edges(x);
+    }
+
+    /** What follows from the paths: reachability, distances, hops and parents. */
+    static String tree(DynamicShortPaths x) {
+        StringBuilder text = new StringBuilder("reachable " + x.reachableCount() + "\n");
+        for (int v = -1; v <= x.vertexCount(); v++) {
             text.append(vertexLine(v, x.isReachable(v), x.getDist(v), x.getHops(v), x.getParent(v)));
         }
+        return text.toString();
+    }
+
+    /** The present edges with their weights. */
+    static String edges(DynamicShortPaths x) {
+        return edgesBut(x, Integer.MIN_VALUE, Integer.MIN_VALUE);
+    }
+
+    /** The source and the present edges without (u,v): what a change of that edge must leave as it was. */
+    static String allBut(DynamicShortPaths x, int u, int v) {
+        return "source " + x.getSource() + "\n" + edgesBut(x, u, v);
+    }
+
+    private static String edgesBut(DynamicShortPaths x, int skipU, int skipV) {
+        StringBuilder text = new StringBuilder();
+        int n = x.vertexCount();
         for (int u = -1; u <= n; u++) {
             for (int v = -1; v <= n; v++) {
-                if (x.hasEdge(u, v) || x.getWeight(u, v) != DynamicShortPaths.NO_EDGE) {
+                boolean skipped = u == skipU && v == skipV;
+                boolean seen = x.hasEdge(u, v) || x.getWeight(u, v) != DynamicShortPaths.NO_EDGE;
+                if (seen && !skipped) {
                     text.append(edgeLine(u, v, x.hasEdge(u, v), x.getWeight(u, v)));
                 }
             }

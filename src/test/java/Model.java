@@ -120,8 +120,8 @@ final class Model {
             dist[v] = hops[v] < 0 ? NO : (int) best[hops[v]][v];
             reachable += hops[v] < 0 ? 0 : 1;
         }
-        StringBuilder text = new StringBuilder("n " + n + " source " + source);
-        text.append(" edges ").append(edgeCount()).append(" reachable ").append(reachable).append('\n');
+        StringBuilder text = new StringBuilder("n " + n + " source " + source + " edges " + edgeCount() + "\n");
+        text.append("reachable ").append(reachable).append('\n');
         text.append(Check.vertexLine(-1, false, NO, -1, -1));
         for (int v = 0; v < n; v++) {
             text.append(Check.vertexLine(v, hops[v] >= 0, dist[v], hops[v], parent(v, dist, hops)));
