@@ -27,20 +27,14 @@ final class AddEdgeBoundsTest {
         takesANegativeLoopOnlyOutOfReach();
         keepsAnUnreachableCycleOutOfReach();
         changesNoPathFromAnUnreachableTail();
+        aRefusedCallChangesNothing();
         Check.end();
     }
 
     private static void refusesVerticesThatAreNotValid() {
         Check.sentence("1. u or v is not valid: answers BAD_VERTEX.");
         for (DynamicShortPaths x : Graphs.emptyToFull()) {
-            int last = x.vertexCount() - 1;
-            for (int bad : Check.invalidVertices(x)) {
-                Check.add(x, bad, 0, 1, BAD_VERTEX);
-                Check.add(x, bad, last, 1, BAD_VERTEX);
-                Check.add(x, 0, bad, 1, BAD_VERTEX);
-                Check.add(x, last, bad, 1, BAD_VERTEX);
-                Check.add(x, bad, bad, 1, BAD_VERTEX);
-            }
+            Check.withBadPairs(x, (u, v) -> Check.add(x, u, v, 1, BAD_VERTEX));
         }
     }
 
@@ -56,7 +50,8 @@ final class AddEdgeBoundsTest {
     }
 
     private static void refusesAPresentEdge() {
-        Check.sentence("3. The edge (u,v) is present: answers EXISTS (whatever its current weight, even if equal to w).");
+        Check.sentence("3. The edge (u,v) is present: answers EXISTS (whatever its current weight, even if equal"
+            + " to w).");
         int[] weights = {-1000, -1, 0, 1, 1000};
         for (int held : weights) {
             DynamicShortPaths x = new DynamicShortPaths(3, 0, 9);
@@ -108,18 +103,15 @@ final class AddEdgeBoundsTest {
     private static void badVertexComesFirst() {
         Check.sentence("The refusal conditions, in order: 1. u or v is not valid: answers BAD_VERTEX.");
         DynamicShortPaths x = Graphs.mixed(Graphs.MIXED_EDGES);
-        for (int bad : Check.invalidVertices(x)) {
-            for (int badWeight : Check.badWeights()) {
-                Check.add(x, bad, 0, badWeight, BAD_VERTEX);
-                Check.add(x, 0, bad, badWeight, BAD_VERTEX);
-            }
-            // The graph is full, too.
-            Check.add(x, bad, bad, -1, BAD_VERTEX);
+        for (int bad : Check.badWeights()) {
+            Check.withBadPairs(x, (u, v) -> Check.add(x, u, v, bad, BAD_VERTEX));
         }
+        // The graph is full, too.
+        Check.withBadPairs(x, (u, v) -> Check.add(x, u, v, -1, BAD_VERTEX));
     }
 
     private static void badWeightComesSecond() {
-        Check.sentence("The refusal conditions, in order: 2. w < MIN_WEIGHT or w > MAX_WEIGHT: answers BAD_WEIGHT.");
+        Check.sentence("The refusal conditions, in order: .. 2. w < MIN_WEIGHT or w > MAX_WEIGHT: answers BAD_WEIGHT.");
         DynamicShortPaths full = Graphs.mixed(Graphs.MIXED_EDGES);
         DynamicShortPaths open = Graphs.mixed(128);
         for (int bad : Check.badWeights()) {
@@ -134,7 +126,7 @@ final class AddEdgeBoundsTest {
     }
 
     private static void existsComesThird() {
-        Check.sentence("The refusal conditions, in order: 3. The edge (u,v) is present: answers EXISTS");
+        Check.sentence("The refusal conditions, in order: .. 3. The edge (u,v) is present: answers EXISTS");
         DynamicShortPaths full = Graphs.mixed(Graphs.MIXED_EDGES);
         DynamicShortPaths open = Graphs.mixed(128);
         // Before FULL, before NEG_CYCLE, and before both.
@@ -148,7 +140,7 @@ final class AddEdgeBoundsTest {
     }
 
     private static void fullComesFourth() {
-        Check.sentence("The refusal conditions, in order: 4. edgeCount() == maxEdges: answers FULL.");
+        Check.sentence("The refusal conditions, in order: .. 4. edgeCount() == maxEdges: answers FULL.");
         DynamicShortPaths full = Graphs.mixed(Graphs.MIXED_EDGES);
         Check.add(full, 2, 2, -1, FULL);
         Check.add(full, 2, 1, 1000, FULL);
@@ -160,8 +152,8 @@ final class AddEdgeBoundsTest {
     }
 
     private static void addsTheFirstEdgeAndTheLast() {
-        Check.sentence("Otherwise the edge is added and the call answers OK. Then hasEdge(u,v) is true, getWeight(u,v)"
-            + " is w, and edgeCount() grows by one.");
+        Check.sentence("Otherwise the edge is added and the call answers OK. Then hasEdge(u,v) is true,"
+            + " getWeight(u,v) is w, and edgeCount() grows by one.");
         for (int n = 2; n <= 32; n++) {
             DynamicShortPaths x = new DynamicShortPaths(n, 0, n);
             for (int v = n - 1; v >= 0; v--) {
@@ -283,5 +275,25 @@ final class AddEdgeBoundsTest {
                 }
             }
         }
+    }
+
+    private static void aRefusedCallChangesNothing() {
+        Check.sentence("A refused call changes nothing.");
+        DynamicShortPaths open = Graphs.mixed(Graphs.MIXED_EDGES + 1);
+        DynamicShortPaths full = Graphs.mixed(Graphs.MIXED_EDGES);
+        String before = Check.answers(open);
+        Check.same("addEdge(6, 0, 1)", open.addEdge(6, 0, 1), BAD_VERTEX);
+        Check.same("addEdge(0, -1, 1)", open.addEdge(0, -1, 1), BAD_VERTEX);
+        Check.same("addEdge(4, 4, 1001)", open.addEdge(4, 4, 1001), BAD_WEIGHT);
+        Check.same("addEdge(4, 4, -1001)", open.addEdge(4, 4, -1001), BAD_WEIGHT);
+        Check.same("addEdge(2, 0, 7)", open.addEdge(2, 0, 7), EXISTS);
+        Check.same("addEdge(4, 4, 1)", full.addEdge(4, 4, 1), FULL);
+        Check.same("addEdge(2, 1, -1000)", open.addEdge(2, 1, -1000), NEG_CYCLE);
+        Check.same("addEdge(5, 2, -4)", open.addEdge(5, 2, -4), NEG_CYCLE);
+        Check.same("after all of them", Check.answers(open), before);
+        Check.same("after FULL", Check.answers(full), before);
+        // The place that was free is still free.
+        Check.add(open, 5, 2, -3, OK);
+        Check.vertex(open, 2, 0, 0, -1);
     }
 }

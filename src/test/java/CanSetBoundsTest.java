@@ -20,14 +20,7 @@ final class CanSetBoundsTest {
     private static void needsValidVertices() {
         Check.sentence("answers true exactly when all of these hold: u and v are valid;");
         for (DynamicShortPaths x : Graphs.emptyToFull()) {
-            int last = x.vertexCount() - 1;
-            for (int bad : Check.invalidVertices(x)) {
-                Check.can(x, bad, 0, 1, false);
-                Check.can(x, bad, last, 1, false);
-                Check.can(x, 0, bad, 1, false);
-                Check.can(x, last, bad, 1, false);
-                Check.can(x, bad, bad, 1, false);
-            }
+            Check.withBadPairs(x, (u, v) -> Check.can(x, u, v, 1, false));
         }
         for (int n = 2; n <= 32; n++) {
             DynamicShortPaths x = new DynamicShortPaths(n, 0, 1);

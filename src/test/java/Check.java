@@ -17,6 +17,10 @@ final class Check {
         sentence = words;
     }
 
+    static String sentence() {
+        return sentence;
+    }
+
     static void same(String call, long got, long due) {
         done++;
         if (got != due) {
@@ -52,6 +56,18 @@ final class Check {
         int[] all = java.util.Arrays.copyOf(OUTSIDE, OUTSIDE.length + 1);
         all[OUTSIDE.length] = x.vertexCount();
         return all;
+    }
+
+    /** Makes the call with each pair of vertices that is not valid in its first place, its second, or both. */
+    static void withBadPairs(DynamicShortPaths x, java.util.function.BiConsumer<Integer, Integer> call) {
+        int last = x.vertexCount() - 1;
+        for (int bad : invalidVertices(x)) {
+            call.accept(bad, 0);
+            call.accept(bad, last);
+            call.accept(0, bad);
+            call.accept(last, bad);
+            call.accept(bad, bad);
+        }
     }
 
     /** Weights that are not allowed: the nearest ones on both sides, and far ones. */

@@ -98,6 +98,11 @@ final class ConstructionBoundsTest {
     }
 
     private static void theExamplesHold() {
+        Check.sentence("Clamping is done in this order, and a value below the least becomes the least while a value"
+            + " above the greatest becomes the greatest");
+        starts(-1, -1, -1, 2, 0);
+        starts(1, 2, 129, 2, 1);
+        starts(33, 32, 0, 32, 31);
         Check.sentence("For example, (100, 50, 0) gives n = 32, source 31 and maxEdges 1; (-5, 3, 500) gives n = 2,"
             + " source 1 and maxEdges 128");
         starts(100, 50, 0, 32, 31);
@@ -114,9 +119,11 @@ final class ConstructionBoundsTest {
     }
 
     private static void theStartIsBare() {
-        Check.sentence("edgeCount() is 0, hasEdge answers false and getWeight answers NO_EDGE for every pair, only the"
-            + " source is reachable, reachableCount() is 1, the source has distance 0, hops 0 and parent -1, and every"
-            + " other vertex has distance NO_DIST, hops -1 and parent -1.");
+        Check.sentence("The new object has no edges, and its source is the clamped source. So at the start:"
+            + " vertexCount() is the clamped n, getSource() is the clamped source, edgeCount() is 0, hasEdge answers"
+            + " false and getWeight answers NO_EDGE for every pair, only the source is reachable, reachableCount() is"
+            + " 1, the source has distance 0, hops 0 and parent -1, and every other vertex has distance NO_DIST, hops"
+            + " -1 and parent -1.");
         for (int n = 2; n <= 32; n++) {
             for (int source = 0; source < n; source++) {
                 isBare(new DynamicShortPaths(n, source, 128), n, source);
@@ -127,6 +134,8 @@ final class ConstructionBoundsTest {
     }
 
     private static void isBare(DynamicShortPaths x, int n, int source) {
+        Check.same("vertexCount()", x.vertexCount(), n);
+        Check.same("getSource()", x.getSource(), source);
         Check.same("edgeCount()", x.edgeCount(), 0);
         Check.same("reachableCount()", x.reachableCount(), 1);
         for (int v = 0; v < n; v++) {
@@ -141,7 +150,8 @@ final class ConstructionBoundsTest {
     }
 
     private static void maxEdgesOnlyLimits() {
-        Check.sentence("The clamped maxEdges is not answered by any method; it only limits how many edges may be present.");
+        Check.sentence("The clamped maxEdges is not answered by any method; it only limits how many edges may"
+            + " be present.");
         String due = Check.answers(Graphs.mixed(128));
         for (int maxEdges = Graphs.MIXED_EDGES; maxEdges < 128; maxEdges++) {
             Check.same("with maxEdges " + maxEdges, Check.answers(Graphs.mixed(maxEdges)), due);

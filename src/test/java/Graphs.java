@@ -52,7 +52,7 @@ final class Graphs {
     static DynamicShortPaths[] emptyToFull() {
         return new DynamicShortPaths[] {
             new DynamicShortPaths(2, 0, 1), new DynamicShortPaths(32, 31, 128), mixed(128), mixed(MIXED_EDGES),
-            complete(2, 0), complete(11, 1), full(32, 128, 1)
+            complete(2, 0), complete(11, 0), complete(11, 1), full(32, 128, 1)
         };
     }
 

@@ -8,10 +8,13 @@ final class InvariantTest {
     private static final int FULL = DynamicShortPaths.FULL;
     private static final int NEG_CYCLE = DynamicShortPaths.NEG_CYCLE;
 
+    private static final long FAR = Long.MAX_VALUE;
+
     private InvariantTest() {
     }
 
     public static void main(String[] args) {
+        theStateIsAlwaysConsistent();
         everyWayToACycleIsRefused();
         equalGraphsAnswerEqually();
         refusedCallsLeaveNoTrace();
@@ -20,6 +23,57 @@ final class InvariantTest {
         isolateIsRefusedOnlyWithMinusOne();
         theFirstConditionGivesTheAnswer();
         Check.end();
+    }
+
+    private static void theStateIsAlwaysConsistent() {
+        Check.sentence("The state is always consistent.");
+        // The weights draw towards a cycle below zero again and again, from every source.
+        DynamicShortPaths x = new DynamicShortPaths(4, 0, 16);
+        for (int i = 0; i < 3000; i++) {
+            int u = i * 7 % 4;
+            int v = i / 4 * 5 % 4;
+            int w = i * 11 % 9 - 5;
+            if (x.hasEdge(u, v)) {
+                x.setWeight(u, v, w);
+            } else {
+                x.addEdge(u, v, w);
+            }
+            x.setSource(i / 3 % 4);
+            if (i % 40 == 0) {
+                x.isolate(i / 40 % 4);
+            }
+            Check.same("a negative cycle in reach after step " + i, closesBelowZero(x), false);
+        }
+    }
+
+    /** Whether some path of 1 to n edges leads from a reachable vertex back to it with a weight below zero. */
+    private static boolean closesBelowZero(DynamicShortPaths x) {
+        int n = x.vertexCount();
+        for (int start = 0; start < n; start++) {
+            long[] least = new long[n];
+            java.util.Arrays.fill(least, FAR);
+            least[start] = 0;
+            for (int length = 1; length <= n; length++) {
+                least = oneEdgeOn(x, least);
+                if (least[start] < 0 && x.isReachable(start)) {
+                    return true;
+                }
+            }
+        }
+        return false;
+    }
+
+    private static long[] oneEdgeOn(DynamicShortPaths x, long[] least) {
+        long[] next = new long[least.length];
+        java.util.Arrays.fill(next, FAR);
+        for (int i = 0; i < next.length * next.length; i++) {
+            int u = i / next.length;
+            int v = i % next.length;
+            if (x.hasEdge(u, v) && least[u] != FAR) {
+                next[v] = Math.min(next[v], least[u] + x.getWeight(u, v));
+            }
+        }
+        return next;
     }
 
     private static void everyWayToACycleIsRefused() {

@@ -87,7 +87,8 @@ final class IsolateBoundsTest {
 
     private static void shrinksTheCountByTheAnswer() {
         Check.sentence("After a call on a valid v, no edge into or out of v is present, edgeCount() shrinks by the"
-            + " answer, and distances, hops, parents, reachability and reachableCount() become those of the new graph.");
+            + " answer, and distances, hops, parents, reachability and reachableCount() become those of the new"
+            + " graph.");
         DynamicShortPaths x = Graphs.complete(11, 1);
         int left = 121;
         for (int v = 0; v < 11; v++) {

@@ -4,10 +4,12 @@ final class Laws {
     }
 
     static void hold(DynamicShortPaths x) {
+        String callers = Check.sentence();
         sourceStandsAtZero(x);
         edgesStretchNoFurther(x);
         parentsLeadToTheSource(x);
         unreachableVerticesHaveNothing(x);
+        Check.sentence(callers);
     }
 
     private static void sourceStandsAtZero(DynamicShortPaths x) {

@@ -11,6 +11,7 @@ final class LawsTest {
         Check.end();
     }
 
+    // Each law names its own sentence; all of them stand under "After every call, .. all of these hold:".
     private static void holdAtTheStart() {
         for (int n = 1; n <= 33; n++) {
             Laws.hold(new DynamicShortPaths(n, 0, 1));

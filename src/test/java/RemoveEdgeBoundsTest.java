@@ -16,20 +16,14 @@ final class RemoveEdgeBoundsTest {
         distancesNeverShrink();
         hopsMayGrowOrShrink();
         leavesTheOtherEdges();
+        aRefusedCallChangesNothing();
         Check.end();
     }
 
     private static void refusesVerticesThatAreNotValid() {
         Check.sentence("1. u or v is not valid: answers BAD_VERTEX.");
         for (DynamicShortPaths x : Graphs.emptyToFull()) {
-            int last = x.vertexCount() - 1;
-            for (int bad : Check.invalidVertices(x)) {
-                Check.remove(x, bad, 0, BAD_VERTEX);
-                Check.remove(x, bad, last, BAD_VERTEX);
-                Check.remove(x, 0, bad, BAD_VERTEX);
-                Check.remove(x, last, bad, BAD_VERTEX);
-                Check.remove(x, bad, bad, BAD_VERTEX);
-            }
+            Check.withBadPairs(x, (u, v) -> Check.remove(x, u, v, BAD_VERTEX));
         }
     }
 
@@ -63,6 +57,11 @@ final class RemoveEdgeBoundsTest {
     }
 
     private static void removesFromTheFirstEdgeToTheLast() {
+        Check.sentence("Otherwise the edge is removed and the call answers OK.");
+        DynamicShortPaths one = new DynamicShortPaths(2, 0, 1);
+        Check.add(one, 0, 1, 1, OK);
+        Check.remove(one, 0, 1, OK);
+        Check.same("emptied", Check.answers(one), Check.answers(new DynamicShortPaths(2, 0, 1)));
         Check.sentence("After it, hasEdge(u,v) is false, getWeight(u,v) is NO_EDGE, and edgeCount() shrinks by one.");
         int[] mosts = {1, 2, 127, 128};
         for (int most : mosts) {
@@ -159,5 +158,19 @@ final class RemoveEdgeBoundsTest {
             Check.noEdge(x, i / 6, i % 6);
             Check.same("after removeEdge(" + i / 6 + ", " + i % 6 + ")", Check.allBut(x, i / 6, i % 6), before);
         }
+    }
+
+    private static void aRefusedCallChangesNothing() {
+        Check.sentence("A refused call changes nothing.");
+        DynamicShortPaths x = Graphs.mixed(Graphs.MIXED_EDGES);
+        String before = Check.answers(x);
+        for (int v = 0; v < 6; v++) {
+            Check.same("removeEdge(6, " + v + ")", x.removeEdge(6, v), BAD_VERTEX);
+            Check.same("removeEdge(" + v + ", -1)", x.removeEdge(v, -1), BAD_VERTEX);
+            Check.same("removeEdge(4, " + v + ")", x.removeEdge(4, v), MISSING);
+        }
+        Check.same("after all of them", Check.answers(x), before);
+        // No place has come free by them.
+        Check.add(x, 4, 4, 1, DynamicShortPaths.FULL);
     }
 }

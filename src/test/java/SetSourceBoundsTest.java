@@ -70,8 +70,8 @@ final class SetSourceBoundsTest {
     }
 
     private static void takesEverythingFromTheNewSource() {
-        Check.sentence("After a successful change, getSource() is s, and reachability, reachableCount(), distances, hops"
-            + " and parents are taken from the new source.");
+        Check.sentence("After a successful change, getSource() is s, and reachability, reachableCount(), distances,"
+            + " hops and parents are taken from the new source.");
         DynamicShortPaths x = Graphs.path(32, 1000);
         for (int s = 31; s >= 0; s--) {
             Check.source(x, s, OK);

@@ -22,20 +22,14 @@ final class SetWeightBoundsTest {
         leavesAllButTheWeight();
         distancesMoveInEitherDirection();
         aFullGraphStopsNoChange();
+        aRefusedCallChangesNothing();
         Check.end();
     }
 
     private static void refusesVerticesThatAreNotValid() {
         Check.sentence("1. u or v is not valid: answers BAD_VERTEX.");
         for (DynamicShortPaths x : Graphs.emptyToFull()) {
-            int last = x.vertexCount() - 1;
-            for (int bad : Check.invalidVertices(x)) {
-                Check.set(x, bad, 0, 1, BAD_VERTEX);
-                Check.set(x, bad, last, 1, BAD_VERTEX);
-                Check.set(x, 0, bad, 1, BAD_VERTEX);
-                Check.set(x, last, bad, 1, BAD_VERTEX);
-                Check.set(x, bad, bad, 1, BAD_VERTEX);
-            }
+            Check.withBadPairs(x, (u, v) -> Check.set(x, u, v, 1, BAD_VERTEX));
         }
     }
 
@@ -87,16 +81,13 @@ final class SetWeightBoundsTest {
     private static void badVertexComesFirst() {
         Check.sentence("The refusal conditions, in order: 1. u or v is not valid: answers BAD_VERTEX.");
         DynamicShortPaths x = Graphs.mixed(Graphs.MIXED_EDGES);
-        for (int bad : Check.invalidVertices(x)) {
-            for (int badWeight : Check.badWeights()) {
-                Check.set(x, bad, 0, badWeight, BAD_VERTEX);
-                Check.set(x, 0, bad, badWeight, BAD_VERTEX);
-            }
+        for (int bad : Check.badWeights()) {
+            Check.withBadPairs(x, (u, v) -> Check.set(x, u, v, bad, BAD_VERTEX));
         }
     }
 
     private static void badWeightComesSecond() {
-        Check.sentence("The refusal conditions, in order: 2. w < MIN_WEIGHT or w > MAX_WEIGHT: answers BAD_WEIGHT.");
+        Check.sentence("The refusal conditions, in order: .. 2. w < MIN_WEIGHT or w > MAX_WEIGHT: answers BAD_WEIGHT.");
         DynamicShortPaths x = Graphs.mixed(Graphs.MIXED_EDGES);
         for (int bad : Check.badWeights()) {
             // Before MISSING, before NEG_CYCLE, and before both.
@@ -107,7 +98,7 @@ final class SetWeightBoundsTest {
     }
 
     private static void missingComesThird() {
-        Check.sentence("The refusal conditions, in order: 3. The edge (u,v) is absent: answers MISSING.");
+        Check.sentence("The refusal conditions, in order: .. 3. The edge (u,v) is absent: answers MISSING.");
         DynamicShortPaths x = Graphs.mixed(Graphs.MIXED_EDGES);
         Check.set(x, 2, 2, -1, MISSING);
         Check.set(x, 5, 2, -1000, MISSING);
@@ -214,5 +205,19 @@ final class SetWeightBoundsTest {
         // Nor does it let one pass that is refused otherwise.
         Check.set(all, 0, 10, -1, NEG_CYCLE);
         Check.set(all, 10, 11, 1, BAD_VERTEX);
+    }
+
+    private static void aRefusedCallChangesNothing() {
+        Check.sentence("A refused call changes nothing.");
+        DynamicShortPaths x = Graphs.mixed(128);
+        String before = Check.answers(x);
+        Check.same("setWeight(6, 0, 1)", x.setWeight(6, 0, 1), BAD_VERTEX);
+        Check.same("setWeight(0, -1, 1)", x.setWeight(0, -1, 1), BAD_VERTEX);
+        Check.same("setWeight(2, 0, 1001)", x.setWeight(2, 0, 1001), BAD_WEIGHT);
+        Check.same("setWeight(2, 0, -1001)", x.setWeight(2, 0, -1001), BAD_WEIGHT);
+        Check.same("setWeight(2, 4, 1)", x.setWeight(2, 4, 1), MISSING);
+        Check.same("setWeight(0, 0, -1)", x.setWeight(0, 0, -1), NEG_CYCLE);
+        Check.same("setWeight(5, 5, -1000)", x.setWeight(5, 5, -1000), NEG_CYCLE);
+        Check.same("after all of them", Check.answers(x), before);
     }
 }

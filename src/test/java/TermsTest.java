@@ -19,6 +19,7 @@ final class TermsTest {
         theSourceIsAlwaysValid();
         aFreshObjectHasNoEdges();
         termsFollowTheCurrentGraph();
+        aPathFollowsEveryEdgeForward();
         theEmptyPathWeighsNothing();
         theSourceIsAlwaysReachable();
         aNegativeCycleIsBelowZero();
@@ -26,6 +27,8 @@ final class TermsTest {
         aNegativeLoopIsANegativeCycle();
         onlyAReachableCycleMatters();
         leastWeightThenLeastLengthThenLeastParent();
+        theLongWayRoundGivesWay();
+        aParentAlwaysExists();
         distancesReachBothEnds();
         Check.end();
     }
@@ -71,7 +74,8 @@ final class TermsTest {
     }
 
     private static void weightsAreWithinBothEnds() {
-        Check.sentence("An edge is an ordered pair (u,v) of valid vertices with an int weight in [MIN_WEIGHT, MAX_WEIGHT].");
+        Check.sentence("An edge is an ordered pair (u,v) of valid vertices with an int weight in"
+            + " [MIN_WEIGHT, MAX_WEIGHT].");
         for (int w = -1003; w <= 1003; w++) {
             DynamicShortPaths x = new DynamicShortPaths(2, 0, 2);
             boolean allowed = -1000 <= w && w <= 1000;
@@ -158,6 +162,21 @@ final class TermsTest {
         Check.unreachable(x, 0);
         Check.unreachable(x, 1);
         Check.vertex(x, 3, 5, 1, 2);
+    }
+
+    private static void aPathFollowsEveryEdgeForward() {
+        Check.sentence("A path from x to y is a sequence x = x0, x1, .., xk = y with k >= 0 in which every pair"
+            + " (x(i-1), x(i)) is a present edge. Its length is k.");
+        for (int gap = 1; gap < 32; gap++) {
+            DynamicShortPaths x = Graphs.path(32, 0);
+            Check.remove(x, gap - 1, gap, OK);
+            // The same pair the other way round is another edge.
+            Check.add(x, gap, gap - 1, 0, OK);
+            Check.same("reachableCount()", x.reachableCount(), gap);
+            Check.vertex(x, gap - 1, 0, gap - 1, gap - 2);
+            Check.unreachable(x, gap);
+            Check.unreachable(x, 31);
+        }
     }
 
     private static void theEmptyPathWeighsNothing() {
@@ -265,6 +284,42 @@ final class TermsTest {
         // The same weight by as many edges: the least vertex.
         Check.vertex(x, 4, 0, 2, 0);
         Check.vertex(x, 5, 0, 0, -1);
+    }
+
+    private static void theLongWayRoundGivesWay() {
+        Check.sentence("hops(v) is the least length among the paths from s to v of weight dist(v);");
+        // Two edges over the vertex at the other end weigh as much as the path; whichever way the vertices are
+        // numbered, the longer path must not stay because it was met first.
+        for (int k = 3; k < 31; k++) {
+            DynamicShortPaths up = Graphs.path(32, 1);
+            Check.remove(up, 30, 31, OK);
+            Check.add(up, 31, k, k - 500, OK);
+            Check.add(up, 0, 31, 500, OK);
+            DynamicShortPaths down = new DynamicShortPaths(32, 31, 128);
+            for (int v = 30; v > 0; v--) {
+                Check.add(down, v + 1, v, 1, OK);
+            }
+            Check.add(down, 0, 31 - k, k - 500, OK);
+            Check.add(down, 31, 0, 500, OK);
+            for (int v = 1; v < 31; v++) {
+                int hops = v < k ? v : v - k + 2;
+                Check.vertex(up, v, v, hops, v == k ? 31 : v - 1);
+                Check.vertex(down, 31 - v, v, hops, v == k ? 0 : 32 - v);
+            }
+        }
+    }
+
+    private static void aParentAlwaysExists() {
+        Check.sentence("Such a u always exists.");
+        for (DynamicShortPaths x : Graphs.emptyToFull()) {
+            for (int s = 0; s < x.vertexCount(); s++) {
+                x.setSource(s);
+                for (int v = 0; v < x.vertexCount(); v++) {
+                    boolean due = x.isReachable(v) && v != x.getSource();
+                    Check.same("a parent of " + v, x.getParent(v) >= 0, due);
+                }
+            }
+        }
     }
 
     private static void distancesReachBothEnds() {

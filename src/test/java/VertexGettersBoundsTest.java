@@ -12,6 +12,7 @@ final class VertexGettersBoundsTest {
         isReachableIsFalseOtherwise();
         isReachableIsTrueForTheSource();
         getHopsIsMinusOneOtherwise();
+        getHopsIsTheLeastOfTheCheapest();
         getHopsIsZeroOnlyForTheSource();
         getParentOfTheSourceIsMinusOne();
         getParentIsMinusOneOtherwise();
@@ -121,6 +122,22 @@ final class VertexGettersBoundsTest {
         }
     }
 
+    private static void getHopsIsTheLeastOfTheCheapest() {
+        Check.sentence("`int getHops(int v)` answers hops(v) when v is valid and reachable");
+        // 31 edges, then 2, then 1, all of weight 0 together; and 1 edge that weighs more is none of them.
+        DynamicShortPaths x = Graphs.path(32, 0);
+        Check.add(x, 0, 31, 1, OK);
+        Check.same("getHops(31)", x.getHops(31), 31);
+        Check.add(x, 0, 30, 0, OK);
+        Check.same("getHops(31)", x.getHops(31), 2);
+        Check.set(x, 0, 31, 0, OK);
+        Check.same("getHops(31)", x.getHops(31), 1);
+        Check.set(x, 0, 30, -1, OK);
+        Check.same("getHops(31)", x.getHops(31), 2);
+        Check.set(x, 29, 30, -2, OK);
+        Check.same("getHops(31)", x.getHops(31), 31);
+    }
+
     private static void getHopsIsZeroOnlyForTheSource() {
         Check.sentence("For the source it answers 0; for any other reachable vertex it answers at least 1.");
         // All the distances are 0 here, so nothing but the edges counts.
@@ -134,7 +151,8 @@ final class VertexGettersBoundsTest {
     }
 
     private static void getParentOfTheSourceIsMinusOne() {
-        Check.sentence("`int getParent(int v)` answers parent(v) when v is valid and reachable, which is -1 for v == s.");
+        Check.sentence("`int getParent(int v)` answers parent(v) when v is valid and reachable, which is -1 for"
+            + " v == s.");
         // Ways back into the source, as cheap as they can be, make no parent of it.
         DynamicShortPaths x = Graphs.complete(11, 0);
         for (int s = 0; s < 11; s++) {
