@@ -1,12 +1,19 @@
 import com.sun.source.tree.ArrayTypeTree;
+import com.sun.source.tree.AssignmentTree;
+import com.sun.source.tree.BinaryTree;
 import com.sun.source.tree.ClassTree;
 import com.sun.source.tree.CompilationUnitTree;
+import com.sun.source.tree.CompoundAssignmentTree;
 import com.sun.source.tree.ExpressionTree;
+import com.sun.source.tree.ForLoopTree;
+import com.sun.source.tree.MemberSelectTree;
 import com.sun.source.tree.MethodInvocationTree;
 import com.sun.source.tree.MethodTree;
 import com.sun.source.tree.NewArrayTree;
 import com.sun.source.tree.PrimitiveTypeTree;
 import com.sun.source.tree.Tree;
+import com.sun.source.tree.TypeCastTree;
+import com.sun.source.tree.UnaryTree;
 import com.sun.source.tree.VariableTree;
 import com.sun.source.util.JavacTask;
 import com.sun.source.util.TreeScanner;
@@ -33,10 +40,20 @@ final class LanguageTest extends TreeScanner<Void, Void> {
         Tree.Kind.NEW_CLASS, Tree.Kind.STRING_LITERAL, Tree.Kind.FLOAT_LITERAL, Tree.Kind.DOUBLE_LITERAL,
         Tree.Kind.IMPORT, Tree.Kind.PACKAGE, Tree.Kind.INTERFACE, Tree.Kind.ENUM, Tree.Kind.RECORD,
         Tree.Kind.ANNOTATION, Tree.Kind.PARAMETERIZED_TYPE);
+    // Not banned, but the class needs neither, and without them rules 7 and 8 are easier to see.
+    private static final Set<Tree.Kind> DIVISIONS = EnumSet.of(
+        Tree.Kind.DIVIDE, Tree.Kind.REMAINDER, Tree.Kind.DIVIDE_ASSIGNMENT, Tree.Kind.REMAINDER_ASSIGNMENT);
+    private static final Set<Tree.Kind> LOOPS_WITHOUT_COUNTER = EnumSet.of(
+        Tree.Kind.WHILE_LOOP, Tree.Kind.DO_WHILE_LOOP);
+    private static final Set<Tree.Kind> STEPS = EnumSet.of(
+        Tree.Kind.PREFIX_INCREMENT, Tree.Kind.POSTFIX_INCREMENT,
+        Tree.Kind.PREFIX_DECREMENT, Tree.Kind.POSTFIX_DECREMENT);
 
     private final Map<String, Set<String>> calls = new HashMap<>();
     private final Set<String> publicNames = new HashSet<>();
     private final Set<String> privateNames = new HashSet<>();
+    private final Set<String> finalFields = new HashSet<>();
+    private final Set<String> counters = new HashSet<>();
     private int classes = 0;
     private int fields = 0;
     private boolean inArguments = false;
@@ -88,7 +105,10 @@ final class LanguageTest extends TreeScanner<Void, Void> {
     @Override
     public Void scan(Tree tree, Void nothing) {
         if (tree != null) {
-            rule(6, "no " + tree.getKind() + ": " + tree, !BANNED.contains(tree.getKind()));
+            String found = "no " + tree.getKind() + ": " + tree;
+            rule(6, found, !BANNED.contains(tree.getKind()));
+            rule(7, found, !DIVISIONS.contains(tree.getKind()));
+            rule(8, found, !LOOPS_WITHOUT_COUNTER.contains(tree.getKind()));
         }
         return super.scan(tree, nothing);
     }
@@ -96,6 +116,7 @@ final class LanguageTest extends TreeScanner<Void, Void> {
     @Override
     public Void visitClass(ClassTree tree, Void nothing) {
         classes++;
+        rule(2, "no class or interface above", tree.getExtendsClause() == null && tree.getImplementsClause().isEmpty());
         for (Tree member : tree.getMembers()) {
             rule(5, "no initialiser block", member.getKind() != Tree.Kind.BLOCK);
             if (member instanceof VariableTree) {
@@ -107,6 +128,10 @@ final class LanguageTest extends TreeScanner<Void, Void> {
 
     private void field(VariableTree field) {
         Set<Modifier> flags = field.getModifiers().getFlags();
+        if (flags.contains(Modifier.FINAL)) {
+            finalFields.add(field.getName().toString());
+        }
+        rule(4, field + " is never assigned to", flags.contains(Modifier.FINAL) || !isArray(field));
         if (flags.contains(Modifier.STATIC)) {
             String type = field.getType().toString();
             boolean number = type.equals("int") || type.equals("long");
@@ -134,9 +159,13 @@ final class LanguageTest extends TreeScanner<Void, Void> {
     @Override
     public Void visitVariable(VariableTree tree, Void nothing) {
         Tree type = tree.getType();
-        Tree plain = type instanceof ArrayTypeTree ? ((ArrayTypeTree) type).getType() : type;
+        Tree plain = isArray(tree) ? ((ArrayTypeTree) type).getType() : type;
         rule(2, tree.toString(), plain instanceof PrimitiveTypeTree);
         return super.visitVariable(tree, nothing);
+    }
+
+    private static boolean isArray(VariableTree tree) {
+        return tree.getType() instanceof ArrayTypeTree;
     }
 
     @Override
@@ -171,5 +200,74 @@ final class LanguageTest extends TreeScanner<Void, Void> {
         super.visitMethodInvocation(tree, nothing);
         inArguments = outer;
         return null;
+    }
+
+    @Override
+    public Void visitMemberSelect(MemberSelectTree tree, Void nothing) {
+        boolean own = tree.getExpression().toString().equals("this");
+        boolean length = tree.getIdentifier().contentEquals("length");
+        rule(3, tree + " is a field of this class or an array's length", own || length);
+        return super.visitMemberSelect(tree, nothing);
+    }
+
+    @Override
+    public Void visitTypeCast(TypeCastTree tree, Void nothing) {
+        rule(6, tree + " is a cast between numbers", tree.getType() instanceof PrimitiveTypeTree);
+        return super.visitTypeCast(tree, nothing);
+    }
+
+    /** Stricter than rule 8, so that a look at the loop's head is enough: for (int i = ..; i < bound; i++). */
+    @Override
+    public Void visitForLoop(ForLoopTree tree, Void nothing) {
+        String counter = counterOf(tree);
+        String head = "for (" + tree.getInitializer() + "; " + tree.getCondition() + "; " + tree.getUpdate() + ")";
+        rule(8, head + " counts one by one", tree.getUpdate().toString().equals(counter + "++;"));
+        rule(8, head + " counts against a bound that stays", hasFixedBound(tree.getCondition(), counter));
+        scan(tree.getInitializer(), nothing);
+        scan(tree.getCondition(), nothing);
+        boolean added = counters.add(counter);
+        rule(8, head + " has a counter of its own", added);
+        scan(tree.getStatement(), nothing);
+        counters.remove(counter);
+        return null;
+    }
+
+    private static String counterOf(ForLoopTree tree) {
+        boolean one = tree.getInitializer().size() == 1 && tree.getInitializer().get(0) instanceof VariableTree;
+        return one ? ((VariableTree) tree.getInitializer().get(0)).getName().toString() : "";
+    }
+
+    private boolean hasFixedBound(ExpressionTree condition, String counter) {
+        if (condition == null || condition.getKind() != Tree.Kind.LESS_THAN) {
+            return false;
+        }
+        BinaryTree less = (BinaryTree) condition;
+        ExpressionTree bound = less.getRightOperand();
+        boolean fixed = bound.getKind() == Tree.Kind.INT_LITERAL || finalFields.contains(bound.toString());
+        return less.getLeftOperand().toString().equals(counter) && fixed;
+    }
+
+    @Override
+    public Void visitAssignment(AssignmentTree tree, Void nothing) {
+        leavesCounters(tree, tree.getVariable());
+        return super.visitAssignment(tree, nothing);
+    }
+
+    @Override
+    public Void visitCompoundAssignment(CompoundAssignmentTree tree, Void nothing) {
+        leavesCounters(tree, tree.getVariable());
+        return super.visitCompoundAssignment(tree, nothing);
+    }
+
+    @Override
+    public Void visitUnary(UnaryTree tree, Void nothing) {
+        if (STEPS.contains(tree.getKind())) {
+            leavesCounters(tree, tree.getExpression());
+        }
+        return super.visitUnary(tree, nothing);
+    }
+
+    private void leavesCounters(Tree change, ExpressionTree changed) {
+        rule(8, change + " leaves the counters of the loops around it", !counters.contains(changed.toString()));
     }
 }
